@@ -23,7 +23,6 @@ public final class TonguesDealt {
 
     private static final int MORNING = 0, NOON = 1, SIGN = 2;
 
-    private static final int[] FACTORIALS = {1, 1, 2, 6, 24};
     private static final long LOT_FACTOR = 48271, LOT_MODULUS = 2147483647;
 
     private final Row[] rows = new Row[ROWS];
@@ -321,16 +320,16 @@ public final class TonguesDealt {
         if (!areTwo(p, q) || !plan.has(mouth) || mouth == p || mouth == q) return BAD;
         int rest = plan.everybody() & ~(1 << p | 1 << q | 1 << mouth);
         if (now.goes(p, q, 0) || !now.goes(p, q, rest | 1 << mouth)) return STATE;
-        int last = Integer.bitCount(rest);
-        if (last + 1 >= FACTORIALS.length) return STATE;
+        int others = Integer.bitCount(rest);
         int owed = 0;
         for (int set = 0; set <= rest; set++) {
             if ((set & ~rest) != 0 || now.goes(p, q, set)) continue;
             if (!now.goes(p, q, set | 1 << mouth)) continue;
+            // in so many orders just these come ahead of the mouth
             int ahead = Integer.bitCount(set);
-            owed += FACTORIALS[ahead] * FACTORIALS[last - ahead];
+            owed += factorial(ahead) * factorial(others - ahead);
         }
-        tellFraction(owed, FACTORIALS[last + 1]);
+        tellFraction(owed, factorial(others + 1));
         return 1;
     }
 
@@ -504,6 +503,12 @@ public final class TonguesDealt {
             b = rest;
         }
         return a;
+    }
+
+    private static int factorial(int n) {
+        int product = 1;
+        for (int i = 2; i <= n; i++) product *= i;
+        return product;
     }
 
     private int toldOf(int p, int what) {
@@ -866,10 +871,10 @@ public final class TonguesDealt {
         /**
          * How many deals there are if those which come from each other by turning all TONGUES
          * alike count once: who understands whom is the same by them, so it is enough to look at
-         * those whose first group has TONGUE 0.
+         * those whose first group has TONGUE 0, the numbers of which are 0, 4, 8, ..
          */
         int dealsUpToTurning() {
-            return groups > 0 ? deals() / TONGUES : 0;
+            return deals() / TONGUES;
         }
 
         int knownBy(int p, int[] dealt, boolean noon) {
