@@ -151,6 +151,11 @@ public final class DeedsTest {
         x.undo(0);
         Check.due("on(1), the later one", x.on(1), 1);
         Check.due("kept in the end", x.count(8), 2);
+        x.undo(0);
+        x.sign(0, 1);
+        x.on(1);
+        Check.due("no sign of what was kept", x.count(3), 0);
+        Check.asks(x, "the first deed of what was kept", x.person(1, 1), 2);
     }
 
     private static void keepAndOnRefused() {

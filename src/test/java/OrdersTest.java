@@ -3,6 +3,7 @@ public final class OrdersTest {
     public static void main(String[] args) {
         tells();
         order();
+        byTheFirst();
         orderRefused();
         needs();
         crew();
@@ -52,6 +53,25 @@ public final class OrdersTest {
         Check.dueRow(one, "the row behind NONE", 3, 0, 1);
         Check.due("order(1, 0, 2)", one.order(1, 0, 2), Check.NONE);
         Check.finds(one, "no row by NONE", one.at(2, 0), Check.NOTHING);
+    }
+
+    /** All orders of the others go by the mouth of the first one. */
+    private static void byTheFirst() {
+        TonguesDealt x = Check.town("mmm g01 g02");
+        Check.due("order(1, 2, 0) by 0", x.order(1, 2, 0), 1);
+        Check.dueRow(x, "the way by 0", 0, 1, 0, 2);
+        Check.due("needs(1, 2)", x.needs(1, 2), 1);
+        Check.due("reach(1)", x.reach(1), 7);
+        Check.due("crier()", x.crier(), 0);
+        Check.due("the crier's others", x.asked(), 2);
+        Check.fraction(x, "odds(1, 2, 0)", x.odds(1, 2, 0), 0, 1);
+        Check.fraction(x, "odds(1, 2, 1)", x.odds(1, 2, 1), 1, 1);
+        Check.fraction(x, "part(1, 2, 0)", x.part(1, 2, 0), 1, 1);
+        Check.due("signs(1, 2)", x.signs(1, 2), 0);
+        Check.due("reached whatever is dealt", x.asked(), 2);
+        TonguesDealt chain = Check.town("mmmm g01 g12 g23");
+        chain.crier();
+        Check.due("the crier's others by mouths", chain.asked(), 3);
     }
 
     private static void orderRefused() {

@@ -66,10 +66,21 @@ public final class TownsTest {
         fault("pppppp g06", 9);
         fault("p a0", 4);
         fault("p a01", 4);
+        String longest = "pp" + " ".repeat(55);
+        fault(longest + "a01", Check.NONE);
+        fault(longest + "  a", 60);
+        fault(longest + " a0", 60);
+        fault(longest + "a 0", 58);
     }
 
     private static void faultRefused() {
         TonguesDealt x = Check.town("pp g01");
+        x.text(0, 5);
+        x.put(0, 0, 'p');
+        x.put(0, 1, 'p');
+        x.put(0, 3, 'g');
+        x.put(0, 4, '0');
+        Check.due("fault(0), what stood behind the end is gone", x.fault(0), 5);
         Check.due("fault(-1)", x.fault(-1), Check.BAD);
         Check.due("fault(4)", x.fault(4), Check.BAD);
         Check.finds(x, "fault(3)", x.fault(3), Check.NOTHING);
