@@ -259,7 +259,8 @@ final class Model {
         return all;
     }
 
-    private int toldOf(int p, int what) {
+    /** What person() tells, without telling it. */
+    int toldOf(int p, int what) {
         Hour h = now();
         switch (what) {
             case 0: return LETTERS.indexOf(town.kinds.charAt(p));
